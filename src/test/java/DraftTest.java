@@ -162,7 +162,9 @@ public final class DraftTest {
         // One cell less: q + r goes to 10, an r of 10 is still too much; to 9 is not.
         x.undo();
         x.removeCell(5, 6, 0);
-        Due.due("5: q + r up to 10", x.move(0, 1), Due.ILLEGAL);
+        Due.due("5: q + r up to 10, an r of 10", x.move(0, 1), Due.ILLEGAL);
+        Due.due("5: q + r up to 10, a q of 10", x.move(0, 2), Due.ILLEGAL);
+        Due.due("14: no canonical form", x.key(1, 0), Due.ILLEGAL);
         x.removeCell(5, 5, 0);
         Due.due("14: canonical form", x.key(1, 0), 0);
         Due.due("5: q + r up to 9", x.move(0, 1) >= 0 ? 1 : 0, 1);

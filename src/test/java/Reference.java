@@ -570,7 +570,8 @@ final class Reference {
         }
         String name = "sides " + lattice + " " + size + " " + sides;
         if (!COUNTS.containsKey(name)) {
-            COUNTS.put(name, (int) list(lattice, 0, size).stream().filter(f -> sides(lattice, new HashSet<>(f)) == sides).count());
+            COUNTS.put(name, (int) list(lattice, 0, size).stream()
+                    .filter(f -> sides(lattice, new HashSet<>(f)) == sides).count());
         }
         return COUNTS.get(name);
     }
@@ -581,7 +582,8 @@ final class Reference {
         }
         String name = "symmetries " + lattice + " " + size + " " + symmetries;
         if (!COUNTS.containsKey(name)) {
-            COUNTS.put(name, (int) list(lattice, 1, size).stream().filter(f -> symmetries(lattice, f) == symmetries).count());
+            COUNTS.put(name, (int) list(lattice, 1, size).stream()
+                    .filter(f -> symmetries(lattice, f) == symmetries).count());
         }
         return COUNTS.get(name);
     }
@@ -593,7 +595,7 @@ final class Reference {
         String name = "holes " + lattice + " " + size;
         if (!COUNTS.containsKey(name)) {
             COUNTS.put(name, (int) list(lattice, 0, size).stream()
-                .filter(f -> !holes(lattice, new HashSet<>(f)).isEmpty()).count());
+                    .filter(f -> !holes(lattice, new HashSet<>(f)).isEmpty()).count());
         }
         return COUNTS.get(name);
     }

@@ -127,6 +127,8 @@ public final class TextTest {
 
     private static void wordsAndSigns() {
         refused(0, "atx 0 0 0;", 0);
+        refused(0, "atz000;", 0);
+        refused(0, "ata000;", 0);
         refused(0, "a t 0 0 0;", 0);
         refused(0, "a", 0);
         refused(0, "go", 0);
