@@ -7,20 +7,20 @@ public final class BlocksTest {
     }
 
     private static void everyBlock() {
-        CellFigures x = new CellFigures();
         for (int lattice = 0; lattice < 3; lattice++) {
-            x.setLattice(lattice);
             for (int width = 1; width <= 5; width++) {
+                CellFigures x = Probe.on(lattice);
                 for (int height = 1; height <= 5; height++) {
                     everySize(x, lattice, width, height);
                 }
             }
         }
-        // once more, with all that is remembered by now
-        for (int lattice = 0; lattice < 3; lattice++) {
-            x.setLattice(lattice);
-            everySize(x, lattice, 2, 5);
-            everySize(x, lattice, 3, 3);
+        // one object for all lattices, and once more with all that it remembers by then
+        CellFigures x = new CellFigures();
+        for (int i = 0; i < 6; i++) {
+            x.setLattice(i % 3);
+            everySize(x, i % 3, 2, 5);
+            everySize(x, i % 3, 3, 3);
         }
     }
 
