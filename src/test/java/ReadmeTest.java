@@ -11,7 +11,8 @@ import java.util.regex.Pattern;
 public final class ReadmeTest {
     private static final Pattern BLOCK = Pattern.compile("(?s)```java\n(.*?)```");
     private static final Pattern MAKING = Pattern.compile("CellFigures x = new CellFigures\\(\\);");
-    private static final Pattern TYPING = Pattern.compile("for \\(char c : \"(.*)\"\\.toCharArray\\(\\)\\) x\\.append\\(c\\);");
+    private static final Pattern TYPING =
+            Pattern.compile("for \\(char c : \"(.*)\"\\.toCharArray\\(\\)\\) x\\.append\\(c\\);");
     private static final Pattern CALL = Pattern.compile("x\\.(\\w+)\\(([-0-9, ]*)\\); *// (-?\\d+)(: .*)?");
 
     private static final TreeMap<String, Method> METHODS = new TreeMap<>();
